@@ -25,7 +25,9 @@ public final class DependencyPairAnalyzer {
     private static final int MAX_EXPANDED = 30;
     private static final int MAX_ARITY = 3;
     private static final int FUNCTIONS = 3;
+    private static final int FIRST_FUNCTION = 'f';
     private static final int VARIABLES = 3;
+    private static final int SYMBOL_CODES = 128;
     private static final int REGISTERS = 4;
     private static final int MAX_PAIRS = MAX_RULES * MAX_SYMBOLS;
     private static final int FIRST_CHARACTER = 32;
@@ -345,17 +347,17 @@ public final class DependencyPairAnalyzer {
     // Exploration.
 
     public int exploredCount(int register, int limit) {
-        int refusal = explore(register, limit);
+        int refusal = exploration.run(system, rewriter, register, limit);
         return refusal < 0 ? refusal : exploration.expansions;
     }
 
     public int exploredNormalForms(int register, int limit) {
-        int refusal = explore(register, limit);
+        int refusal = exploration.run(system, rewriter, register, limit);
         return refusal < 0 ? refusal : exploration.normalForms;
     }
 
     public int lastExploredSize(int register, int limit) {
-        int refusal = explore(register, limit);
+        int refusal = exploration.run(system, rewriter, register, limit);
         return refusal < 0 ? refusal : exploration.current.size;
     }
 
@@ -363,7 +365,7 @@ public final class DependencyPairAnalyzer {
         if (!hasRegister(target)) {
             return NO_SUCH_ELEMENT;
         }
-        int refusal = explore(register, limit);
+        int refusal = exploration.run(system, rewriter, register, limit);
         if (refusal < 0) {
             return refusal;
         }
@@ -437,17 +439,6 @@ public final class DependencyPairAnalyzer {
     private int store(Term term, int register) {
         system.register(register).copyFrom(term);
         return term.size;
-    }
-
-    private int explore(int register, int limit) {
-        if (!hasRegister(register)) {
-            return NO_SUCH_ELEMENT;
-        }
-        if (limit < 1 || limit > MAX_EXPANDED) {
-            return OUT_OF_RANGE;
-        }
-        exploration.run(system, rewriter, system.register(register), limit);
-        return 0;
     }
 
     private void rulesChanged() {
@@ -525,30 +516,14 @@ public final class DependencyPairAnalyzer {
         return function >= 0 && function < FUNCTIONS;
     }
 
+    // The letters of the functions follow each other, as their numbers do.
+
     private static int functionOfSymbol(int symbol) {
-        switch (symbol) {
-            case 'f':
-                return 0;
-            case 'g':
-                return 1;
-            case 'h':
-                return 2;
-            default:
-                return NONE;
-        }
+        return symbol >= FIRST_FUNCTION && symbol < FIRST_FUNCTION + FUNCTIONS ? symbol - FIRST_FUNCTION : NONE;
     }
 
     private static int symbolOfFunction(int function) {
-        switch (function) {
-            case 0:
-                return 'f';
-            case 1:
-                return 'g';
-            case 2:
-                return 'h';
-            default:
-                return NO_SYMBOL;
-        }
+        return FIRST_FUNCTION + function;
     }
 
     private static int variableNumber(int symbol) {
@@ -583,16 +558,12 @@ public final class DependencyPairAnalyzer {
         return (source << SOURCE_SHIFT) | (target << TARGET_SHIFT);
     }
 
-    private static int relationShift(int from, int to) {
-        return RELATION_BITS * (MAX_ARITY * from + to);
-    }
-
     private static int withRelation(int graph, int from, int to, int relation) {
-        return graph | (relation << relationShift(from, to));
+        return graph | (relation << (RELATION_BITS * (MAX_ARITY * from + to)));
     }
 
     private static int relationIn(int graph, int from, int to) {
-        return (graph >> relationShift(from, to)) & RELATION_MASK;
+        return (graph >> (RELATION_BITS * (MAX_ARITY * from + to))) & RELATION_MASK;
     }
 
     private static int sourceOf(int graph) {
@@ -689,22 +660,27 @@ public final class DependencyPairAnalyzer {
 
     /** The arities, and with them the extent of subterms. */
     private static final class Signature {
-        private final int[] arities = {2, 2, 1};
+        private final int[] arities = new int[SYMBOL_CODES];
 
-        int ofFunction(int function) {
-            return function >= 0 && function < arities.length ? arities[function] : 0;
+        Signature() {
+            arities['s'] = 1;
+            arities['c'] = 2;
+            arities['f'] = 2;
+            arities['g'] = 2;
+            arities['h'] = 1;
         }
 
         int ofSymbol(int symbol) {
-            if (symbol == 's') {
-                return 1;
-            }
-            return symbol == 'c' ? 2 : ofFunction(functionOfSymbol(symbol));
+            return symbol >= 0 && symbol < arities.length ? arities[symbol] : 0;
+        }
+
+        int ofFunction(int function) {
+            return function >= 0 && function < FUNCTIONS ? arities[FIRST_FUNCTION + function] : 0;
         }
 
         void change(int function, int newArity) {
-            if (function >= 0 && function < arities.length) {
-                arities[function] = newArity;
+            if (function >= 0 && function < FUNCTIONS) {
+                arities[FIRST_FUNCTION + function] = newArity;
             }
         }
 
@@ -733,12 +709,15 @@ public final class DependencyPairAnalyzer {
         }
 
         boolean sameSubterms(Term first, int firstPosition, Term second, int secondPosition) {
-            // The symbols of a term determine where it ends, so the end of one of them is enough.
-            int length = endOf(first, firstPosition) - firstPosition;
-            for (int offset = 0; offset < length; offset++) {
-                if (first.symbolAt(firstPosition + offset) != second.symbolAt(secondPosition + offset)) {
+            int missing = 1;
+            int offset = 0;
+            while (firstPosition + offset < first.size && missing > 0) {
+                int symbol = first.symbolAt(firstPosition + offset);
+                if (symbol != second.symbolAt(secondPosition + offset)) {
                     return false;
                 }
+                missing += ofSymbol(symbol) - 1;
+                offset++;
             }
             return true;
         }
@@ -942,16 +921,18 @@ public final class DependencyPairAnalyzer {
             unbind();
             for (int part = 0; part < pattern.size; part++) {
                 int symbol = pattern.symbolAt(part);
-                if (isVariable(symbol)) {
-                    if (!bind(system, variableNumber(symbol), term, at)) {
+                int variable = variableNumber(symbol);
+                if (variable >= 0 && variable < bindings.length) {
+                    int bound = bindings[variable];
+                    if (bound >= 0 && !system.signature.sameSubterms(term, bound, term, at)) {
                         return false;
                     }
+                    bindings[variable] = at;
                     at = system.signature.endOf(term, at);
-                } else {
-                    if (term.symbolAt(at) != symbol) {
-                        return false;
-                    }
+                } else if (term.symbolAt(at) == symbol) {
                     at++;
+                } else {
+                    return false;
                 }
             }
             return true;
@@ -961,17 +942,6 @@ public final class DependencyPairAnalyzer {
             for (int variable = 0; variable < bindings.length; variable++) {
                 bindings[variable] = NONE;
             }
-        }
-
-        private boolean bind(RewriteSystem system, int variable, Term term, int at) {
-            if (variable < 0 || variable >= bindings.length) {
-                return false;
-            }
-            if (bindings[variable] >= 0) {
-                return system.signature.sameSubterms(term, bindings[variable], term, at);
-            }
-            bindings[variable] = at;
-            return true;
         }
 
         private int bindingOf(int variable) {
@@ -1090,30 +1060,35 @@ public final class DependencyPairAnalyzer {
             }
         }
 
-        void run(RewriteSystem system, Rewriter rewriter, Term start, int limit) {
+        /** Explores from a register: 0, or the error code without an exploration. */
+        int run(RewriteSystem system, Rewriter rewriter, int register, int limit) {
+            if (!hasRegister(register)) {
+                return NO_SUCH_ELEMENT;
+            }
+            if (limit < 1 || limit > MAX_EXPANDED) {
+                return OUT_OF_RANGE;
+            }
             count = 0;
             expansions = 0;
             normalForms = 0;
-            discover(start);
-            for (int round = 0; round < limit; round++) {
-                int lowest = lowestWaiting();
-                if (lowest < 0) {
-                    return;
-                }
-                expanded[lowest] = true;
-                current.copyFrom(found[lowest]);
+            discover(system.register(register));
+            for (int round = 0; round < limit && takeLowest(); round++) {
                 expansions++;
                 expandCurrent(system, rewriter);
             }
+            return 0;
         }
 
-        private int lowestWaiting() {
+        /** Makes the lowest term that was not expanded the current one, if there is one. */
+        private boolean takeLowest() {
             for (int row = 0; row < count && row < KEPT; row++) {
                 if (!expanded[row]) {
-                    return row;
+                    expanded[row] = true;
+                    current.copyFrom(found[row]);
+                    return true;
                 }
             }
-            return NONE;
+            return false;
         }
 
         private void expandCurrent(RewriteSystem system, Rewriter rewriter) {
@@ -1265,21 +1240,15 @@ public final class DependencyPairAnalyzer {
             for (int rule = 0; rule < system.rules; rule++) {
                 Term right = system.right(rule);
                 for (int position = 0; position < right.size; position++) {
-                    if (isFunction(right.symbolAt(position))) {
-                        addPair(system, rule, position);
+                    if (isFunction(right.symbolAt(position)) && count < MAX_PAIRS) {
+                        ruleOf[count] = rule;
+                        positionOf[count] = position;
+                        graphOf[count] = sizeChange(system.signature, system.left(rule), right, position);
+                        count++;
                     }
                 }
             }
             connectPairs(system);
-        }
-
-        private void addPair(RewriteSystem system, int rule, int position) {
-            if (count >= 0 && count < MAX_PAIRS) {
-                ruleOf[count] = rule;
-                positionOf[count] = position;
-                graphOf[count] = sizeChange(system.signature, system.left(rule), system.right(rule), position);
-                count++;
-            }
         }
 
         private static int sizeChange(Signature signature, Term left, Term right, int position) {
@@ -1575,7 +1544,7 @@ public final class DependencyPairAnalyzer {
         }
 
         private int choiceOf(int function) {
-            return isFunctionNumber(function) ? chosen[function] : 0;
+            return function >= 0 && function < chosen.length ? chosen[function] : 0;
         }
     }
 }
