@@ -1041,9 +1041,9 @@ public final class DependencyPairAnalyzer {
 
     /** Expands terms, the lowest first. */
     private static final class Exploration {
-        // At most 30 of these 60 are expanded, so 30 waiting terms stand below every term that is dropped, and
-        // no dropped term would have been expanded (again) within the limit.
-        private static final int KEPT = 2 * MAX_EXPANDED;
+        // Below a term that is dropped stand 30 others. They would all be expanded first, so the dropped term
+        // would not be expanded within the limit, nor a second time if it was expanded and is discovered again.
+        private static final int KEPT = MAX_EXPANDED;
 
         private final Term[] found = new Term[KEPT + 1];
         private final boolean[] expanded = new boolean[KEPT + 1];
@@ -1203,13 +1203,10 @@ public final class DependencyPairAnalyzer {
             }
         }
 
-        void isolate(int pair) {
+        void removeEdgesFrom(int pair) {
             if (covers(pair, pair)) {
                 for (int word = 0; word < WORDS; word++) {
                     rows[pair * WORDS + word] = 0;
-                }
-                for (int from = 0; from < MAX_PAIRS; from++) {
-                    rows[from * WORDS + pair / WORD_BITS] &= ~(1L << (pair % WORD_BITS));
                 }
             }
         }
@@ -1325,7 +1322,8 @@ public final class DependencyPairAnalyzer {
         }
 
         void remove(int pair) {
-            kept.isolate(pair);
+            // Without an edge from it, a pair is on no cycle, and so in no component.
+            kept.removeEdgesFrom(pair);
         }
 
         int number(int pair) {
