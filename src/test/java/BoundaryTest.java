@@ -23,7 +23,8 @@ import java.util.regex.Pattern;
  * test. It is a run of steps on a new object:
  *
  * <ul>
- *   <li>{@code name(1, 2) = 3}: a call and the answer that is due; {@code {1,2}} stands for each of its numbers in turn;
+ *   <li>{@code name(1, 2) = 3}: a call and the answer that is due; {@code {1,2}} stands for each of
+ *       its numbers in turn;
  *   <li>{@code !name(1) = -1}: the same, and the state is what it would be without the call;
  *   <li>{@code ~name(1) = -1}: the same, and the state is what it would be with clearText() instead of the call;
  *   <li>{@code ?name(1) = -1}: a refused call behind which no calls are left to look at the state;
@@ -414,8 +415,41 @@ public final class BoundaryTest {
 
     // ---- The description ----
 
+    /** A step for each character that may be typed: what parseTerm or addRule says of it behind a beginning. */
+    private static String[] eachCharacter(String beginning, String symbols, String taken, int refusal) {
+        List<String> steps = new ArrayList<>();
+        for (char character = 32; character <= 126; character++) {
+            if (symbols.indexOf(character) < 0) {
+                steps.add("type " + beginning + character);
+                steps.add("~" + taken + " = " + refusal);
+            }
+        }
+        return steps.toArray(new String[0]);
+    }
+
+    private static void symbols() {
+        at(DESCRIPTION, "The variables are x, y and w; they have no arguments.",
+                "term 0 x = 1", "term 1 y = 1", "term 2 w = 1", "~term 0 v = -100", "~term 0 x(z) = -101",
+                "~term 0 y(z) = -101", "~term 0 w(z) = -101");
+        at(DESCRIPTION, "The constructors are z without arguments, s with one argument and c with two arguments.",
+                "term 0 z = 1", "term 1 s(z) = 2", "term 2 c(z,z) = 3", "~term 0 z(z) = -101", "~term 0 s = -101",
+                "~term 0 s(z,z) = -103", "~term 0 c(z) = -103", "~term 0 c(z,z,z) = -105");
+        at(DESCRIPTION, "The functions are f, g and h; they have the numbers 0, 1 and 2.",
+                "rule f(x,y)>f(x,y) = 0", "rule g(x,y)>g(x,y) = 1", "rule h(x)>h(x) = 2", "!sourceFunction(0) = 0",
+                "!targetFunction(1) = 1", "!sourceFunction(2) = 2", "~rule e(x)>x = -100", "~rule i(x)>x = -100");
+        at(DESCRIPTION, "the position, from 0, of the first character that cannot continue any valid text",
+                eachCharacter("", "xywzscfgh", "parseTerm(0)", -100));
+        at(DESCRIPTION, "the position, from 0, of the first character that cannot continue any valid text",
+                eachCharacter("s(", "xywzscfgh", "parseTerm(0)", -102));
+        at(DESCRIPTION, "the position, from 0, of the first character that cannot continue any valid text",
+                eachCharacter("h", "(", "parseTerm(0)", -101));
+        at(DESCRIPTION, "the position, from 0, of the first character that cannot continue any valid text",
+                eachCharacter("x", ">", "addRule()", -101));
+    }
+
     private static void termsAndRules() {
-        at(DESCRIPTION, "An object is used for at most 512 calls after it has been made; what later calls answer is free.",
+        at(DESCRIPTION,
+                "An object is used for at most 512 calls after it has been made; what later calls answer is free.",
                 "term 3 f(z,s(z)) = 4",
                 "termSize({0,1,2,3}) = 1".replace("{0,1,2,3}", "{0,1,2" + ",0".repeat(498) + "}"),
                 "termSize(3) = 4");
@@ -429,8 +463,8 @@ public final class BoundaryTest {
                 "rule h(s(x))>x = 0", "term 0 c(h(s(z)),h(s(h(s(z))))) = 9",
                 "!matches(0, 0, 0) = 0", "!matches(0, 0, 1) = 1", "!matches(0, 0, 4) = 1", "!matches(0, 0, 6) = 1",
                 "!matches(0, 0, 8) = 0", "!matches(0, 0, 9) = NO_SUCH_ELEMENT", "!matches(0, 0, -1) = NO_SUCH_ELEMENT");
-        at(DESCRIPTION, "Terms are ordered by size; terms of equal size are compared lexicographically by their symbols "
-                + "in preorder, and symbols are compared by character code.",
+        at(DESCRIPTION, "Terms are ordered by size; terms of equal size are compared lexicographically by their "
+                + "symbols in preorder, and symbols are compared by character code.",
                 "term 0 z = 1", "term 1 c(w,w) = 3", "!compareTerms(0, 1) = 0", "!compareTerms(1, 0) = 2",
                 "term 0 c(w,x) = 3", "!compareTerms(0, 1) = 2", "!compareTerms(1, 0) = 0",
                 "term 0 c(w,w) = 3", "!compareTerms(0, 1) = 1");
@@ -504,12 +538,13 @@ public final class BoundaryTest {
         at(DESCRIPTION, "The length limit of the buffer is not part of this syntax.",
                 "~term 0 " + "s(".repeat(39) + "s) = -179", "~term 0 " + "s(".repeat(39) + "sz = -179",
                 "~rule " + LONG_RULE.substring(0, 79) + "z = -179", "~rule " + LONG_RULE.substring(0, 79) + ", = -179");
-        at(DESCRIPTION, "A method that returns an error code leaves the state unchanged, except that addRule and parseTerm "
-                + "empty the text buffer, as described there.", join(SIX_RULES,
+        at(DESCRIPTION, "A method that returns an error code leaves the state unchanged, except that addRule and "
+                + "parseTerm empty the text buffer, as described there.", join(SIX_RULES,
                 "term 0 f(s(z),h(s(z))) = 6", "term 3 g(x,h(y)) = 4", "saveSnapshot() = 6", "copyTerm(3, 1) = 4",
                 "removeRule(0) = 5", "type h(", "~addRule() = -102", "type h(", "~parseTerm(1) = -102",
                 "type h(h(z))>z", "~addRule() = INVALID", "type h(", "!parseTerm(4) = NO_SUCH_ELEMENT",
-                "!setArity(0, 3) = NOT_POSSIBLE", "!removeRule(5) = NO_SUCH_ELEMENT", "!copyTerm(4, 0) = NO_SUCH_ELEMENT",
+                "!setArity(0, 3) = NOT_POSSIBLE", "!removeRule(5) = NO_SUCH_ELEMENT",
+                "!copyTerm(4, 0) = NO_SUCH_ELEMENT",
                 "!loadLeft(5, 0) = NO_SUCH_ELEMENT", "!loadRight(0, 4) = NO_SUCH_ELEMENT",
                 "!rewriteAt(0, 1) = NOT_FOUND", "!rewriteOutermost(0, 101) = OUT_OF_RANGE",
                 "!loadNormalForm(0, 31, 1) = OUT_OF_RANGE", "!appendCharacter(127) = OUT_OF_RANGE"));
@@ -577,7 +612,8 @@ public final class BoundaryTest {
                 "removeRule(3) = 5", "~addRule() = -100", "rule h(x)>x = 5", "!addRule() = FULL"));
         at(4, "-100 minus the error position if the text is not a rule by its syntax",
                 "~rule  = -100", "~rule > = -100", "~rule k = -100", "~rule F(x,y)>x = -100", "~rule h>z = -101",
-                "~rule hz = -101", "~rule x(z)>z = -101", "~rule z(z)>z = -101", "~rule h()>z = -102", "~rule h(,)>z = -102",
+                "~rule hz = -101", "~rule x(z)>z = -101", "~rule z(z)>z = -101", "~rule h()>z = -102",
+                "~rule h(,)>z = -102",
                 "~rule h(z = -103", "~rule h(z,z)>z = -103", "~rule f(z)>z = -103", "~rule h(z)z = -104",
                 "~rule h(z),z = -104", "~rule h(z)) = -104", "~rule h(z)>>z = -105", "~rule h(z)>z>z = -106",
                 "~rule h(z)>zz = -106", "~rule h(z)>z) = -106", "~rule h(z)>s(z = -108", "~rule h(z)>s(z,z) = -108");
@@ -664,6 +700,10 @@ public final class BoundaryTest {
         at(14, "Returns 1 if there is an edge from the first pair to the second one, 0 if not", join(MOST_PAIRS,
                 "hasEdge(143, {0,63,64,127,128,143}) = 1", "hasEdge({0,63,64,127,128,143}, 143) = 1",
                 "?hasEdge(143, 144) = NO_SUCH_ELEMENT", "?hasEdge(144, 143) = NO_SUCH_ELEMENT"));
+        // What stands behind the target in the right side plays no role, here and in the size relations.
+        at(14, "Returns 1 if there is an edge from the first pair to the second one, 0 if not",
+                "rule g(x,y)>c(f(x,y),s(z)) = 0", "rule f(x,y)>c(c(g(z,z),z),y) = 1", "!hasEdge(0, 1) = 1",
+                "!hasEdge(1, 0) = 1", "!hasEdge(0, 0) = 0", "!hasEdge(1, 1) = 0");
         at(14, "NO_SUCH_ELEMENT if one of the pairs does not exist", join(PLUS_TIMES, "!hasEdge(2, 2) = 1",
                 "!hasEdge({0,2}, {-1,3,LOW,HIGH,240,256}) = NO_SUCH_ELEMENT",
                 "!hasEdge({-1,3,LOW,HIGH,240,256}, {0,2}) = NO_SUCH_ELEMENT",
@@ -673,13 +713,15 @@ public final class BoundaryTest {
                 "!hasEdge(0, 1) = NO_SUCH_ELEMENT", "!hasEdge(1, 0) = NO_SUCH_ELEMENT");
         at(15, "Returns 0 or more", "!edgeCount() = 0", "rule h(z)>h(s(z)) = 0", "!edgeCount() = 0",
                 "rule h(s(z))>h(z) = 1", "!edgeCount() = 2", "removeRule(0) = 1", "!edgeCount() = 0");
-        at(15, "Returns 0 or more", join(MOST_PAIRS, "edgeCount() = 20736", "removeRule(5) = 5", "edgeCount() = 14400"));
+        at(15, "Returns 0 or more", join(MOST_PAIRS, "edgeCount() = 20736", "removeRule(5) = 5",
+                "edgeCount() = 14400"));
         at(15, "Returns 0 or more", join(DEAD_ENDS, "edgeCount() = 18216", "removeRule(0) = 5", "edgeCount() = 12650"));
         at(16, "Returns 0 or more", "!componentCount() = 0", "rule h(z)>h(s(z)) = 0", "!componentCount() = 0",
                 "rule h(s(z))>h(z) = 1", "!componentCount() = 1", "removeRule(0) = 1", "!componentCount() = 0");
         at(16, "Returns 0 or more", "rule f(z,z)>f(z,z) = 0", "rule f(z,s(z))>f(z,s(z)) = 1",
                 "rule g(z,z)>g(z,z) = 2", "rule g(s(x),z)>g(s(z),z) = 3", "rule h(z)>h(z) = 4",
-                "rule h(s(x))>h(s(x)) = 5", "!componentCount() = 6", "!componentOf(5) = 5", "!projection(5) = NOT_FOUND",
+                "rule h(s(x))>h(s(x)) = 5", "!componentCount() = 6", "!componentOf(5) = 5",
+                "!projection(5) = NOT_FOUND",
                 "!projection(6) = NO_SUCH_ELEMENT", "removeRule(0) = 5", "!componentCount() = 5");
         at(16, "Returns 0 or more", join(DEAD_ENDS, "componentCount() = 1", "remainingPairCount() = 132",
                 "remainingComponentCount() = 1", "eliminationRounds() = 0", "?projection(0) = NOT_FOUND",
@@ -703,6 +745,11 @@ public final class BoundaryTest {
         at(18, "Returns 0, 1 or 2", "rule f(s(x),c(y,z))>f(x,c(y,z)) = 0", "!sizeRelation(0, 0, 0) = 2",
                 "!sizeRelation(0, 1, 1) = 1", "!sizeRelation(0, 0, 1) = 0", "!sizeRelation(0, 1, 0) = 0",
                 "rule f(s(s(x)),y)>f(s(x),s(y)) = 1", "!sizeRelation(1, 0, 0) = 2", "!sizeRelation(1, 1, 1) = 0");
+        at(18, "Returns 0, 1 or 2", "setArity(0, 3) = 2", "rule f(x,y,w)>c(f(z,z,z),x) = 0",
+                "rule f(x,y,w)>c(f(z,z,z),y) = 1", "rule f(x,y,w)>c(f(z,z,z),w) = 2",
+                "!sizeRelation({0,1,2}, {0,1,2}, {0,1,2}) = 0", "!sourceFunction({0,1,2}) = 0",
+                "rule f(x,y,w)>f(f(z,z,z),y,w) = 3", "!sizeRelation(3, {1,2}, 0) = 0", "!sizeRelation(3, 1, 1) = 1",
+                "!sizeRelation(4, {0,1,2}, {0,1,2}) = 0");
         at(18, "NO_SUCH_ELEMENT if there is no such pair, or the source or the target has no such argument",
                 "setArity(0, 3) = 2", "rule f(x,y,s(w))>h(w) = 0", "rule h(s(x))>f(z,z,s(x)) = 1",
                 "!sizeRelation(0, 2, 0) = 2", "!sizeRelation(1, 0, 2) = 1",
@@ -710,7 +757,8 @@ public final class BoundaryTest {
                 "!sizeRelation(0, {0,2}, {1,2,3,-1,LOW,HIGH}) = NO_SUCH_ELEMENT",
                 "!sizeRelation(1, {1,2,3,-1,LOW,HIGH}, {0,2}) = NO_SUCH_ELEMENT",
                 "!sizeRelation(1, 0, {3,-1,LOW,HIGH}) = NO_SUCH_ELEMENT",
-                "!sizeRelation({2,-1,LOW,HIGH,240,256}, 0, 0) = NO_SUCH_ELEMENT", "!sizeRelation(2, 3, 3) = NO_SUCH_ELEMENT");
+                "!sizeRelation({2,-1,LOW,HIGH,240,256}, 0, 0) = NO_SUCH_ELEMENT",
+                "!sizeRelation(2, 3, 3) = NO_SUCH_ELEMENT");
         at(18, "NO_SUCH_ELEMENT if there is no such pair, or the source or the target has no such argument",
                 "!sizeRelation(0, 0, 0) = NO_SUCH_ELEMENT", "rule g(x,y)>g(y,x) = 0", "!sizeRelation(0, 1, 0) = 1",
                 "!sizeRelation(0, 2, 0) = NO_SUCH_ELEMENT", "!sizeRelation(0, 0, 2) = NO_SUCH_ELEMENT");
@@ -719,6 +767,11 @@ public final class BoundaryTest {
                 "!closureSize() = 0");
         at(19, "Returns the number of graphs, 0 if there are no pairs", join(MOST_PAIRS, "closureSize() = 2",
                 "idempotentCount() = 2", "terminatesBySizeChange() = 0"));
+        at(19, "Returns the number of graphs, 0 if there are no pairs", "setArity(0, 3) = 2",
+                "rule f(s(x),y,w)>f(y,w,x) = 0", "!closureSize() = 5", "!idempotentCount() = 1");
+        at(19, "Returns the number of graphs, 0 if there are no pairs", "setArity(1, 3) = 2", "setArity(2, 3) = 1",
+                "rule g(s(x),y,w)>g(y,w,x) = 0", "!closureSize() = 5", "!idempotentCount() = 1",
+                "rule h(s(x),y,w)>h(y,w,x) = 1", "!closureSize() = 10", "!idempotentCount() = 2");
         at(19, "TOO_LARGE if it is more than 400", join(CLOSURE_OF_400, "!closureSize() = 400"));
         at(19, "TOO_LARGE if it is more than 400", join(CLOSURE_OF_401, "!closureSize() = TOO_LARGE",
                 "removeRule(0) = 5", "!closureSize() = 179"));
@@ -747,6 +800,9 @@ public final class BoundaryTest {
         at(22, "Returns the three-digit number of the projection", join(
                 system("333", "f(x,y,w)>g(z,z,w)", "g(x,y,w)>h(z,z,w)", "h(x,y,s(w))>f(z,z,w)"), "!projection(0) = 333",
                 "!projection(1) = NO_SUCH_ELEMENT", "removeRule(2) = 2", "!projection(0) = NO_SUCH_ELEMENT"));
+        at(22, "Returns the three-digit number of the projection", "setArity(0, 3) = 2", "setArity(2, 3) = 1",
+                "rule f(x,y,s(w))>f(y,x,w) = 0", "!projection(0) = 311", "rule h(x,y,s(w))>h(y,x,w) = 1",
+                "!projection(1) = 113");
         at(22, "NO_SUCH_ELEMENT if there is no such component", join(PLUS_TIMES, "!projection({0,1}) = 111",
                 "!projection({2,-1,LOW,HIGH,256}) = NO_SUCH_ELEMENT"));
         at(22, "NO_SUCH_ELEMENT if there is no such component", "!projection({0,-1}) = NO_SUCH_ELEMENT",
@@ -755,6 +811,16 @@ public final class BoundaryTest {
         at(22, "NOT_FOUND if no projection is valid", "rule f(x,y)>f(x,y) = 0", "!projection(0) = NOT_FOUND",
                 "rule f(s(x),y)>f(x,z) = 1", "!projection(0) = 111", "rule f(x,s(y))>f(z,y) = 2",
                 "!projection(0) = NOT_FOUND", "removeRule(1) = 2", "!projection(0) = 211");
+        // No projection chooses a fourth argument, or the arguments of two functions across.
+        at(22, "NOT_FOUND if no projection is valid", join(system("331", "f(x,s(y),w)>g(y,z,z)",
+                "g(x,y,w)>f(z,s(z),z)"),
+                "!projection(0) = NOT_FOUND"));
+        at(22, "NOT_FOUND if no projection is valid", join(system("323", "f(x,s(y),w)>h(y,z,z)",
+                "h(x,y,w)>f(z,s(z),z)"),
+                "!projection(0) = NOT_FOUND"));
+        at(22, "NOT_FOUND if no projection is valid", join(system("323", "h(x,y,s(w))>f(w,z,z)",
+                "f(x,y,w)>h(z,z,s(z))"),
+                "!projection(0) = NOT_FOUND"));
         at(23, "Returns 0 or more", "!eliminationRounds() = 0", "rule h(x)>x = 0", "!eliminationRounds() = 0",
                 "rule h(z)>h(s(z)) = 1", "!eliminationRounds() = 0", "rule g(s(x),y)>g(x,y) = 2",
                 "!eliminationRounds() = 1", "rule f(x,y)>f(y,x) = 3", "!eliminationRounds() = 1");
@@ -806,7 +872,8 @@ public final class BoundaryTest {
     private static void registers() {
         at(28, "Returns the size", join(GROWING, "term 3 h(z) = 2", "!termSize(0) = 1", "!termSize(3) = 2",
                 "rewriteOutermost(3, 100) = 38", "!termSize(3) = 40"));
-        at(28, "NO_SUCH_ELEMENT if there is no such register", "term 0 h(z) = 2", "term 3 s(h(z)) = 3", "!termSize(0) = 2",
+        at(28, "NO_SUCH_ELEMENT if there is no such register", "term 0 h(z) = 2", "term 3 s(h(z)) = 3",
+                "!termSize(0) = 2",
                 "!termSize(3) = 3", "!termSize({-1,4,LOW,HIGH,256}) = NO_SUCH_ELEMENT");
         at(29, "Returns the number of characters", join(GROWING, "!formattedLength(0) = 1", "term 0 h(z) = 2",
                 "!formattedLength(0) = 4", "rewriteOutermost(0, 100) = 38", "!formattedLength(0) = 118"));
@@ -817,7 +884,8 @@ public final class BoundaryTest {
                 "!formattedLength({-1,4,LOW,HIGH,256}) = NO_SUCH_ELEMENT");
         at(30, "Returns the character code", join(GROWING, "!formattedCharacter(3, 0) = 122", "term 0 h(z) = 2",
                 "rewriteOutermost(0, 100) = 38", "!formattedCharacter(0, 0) = 104", "!formattedCharacter(0, 1) = 40",
-                "!formattedCharacter(0, 78) = 122", "!formattedCharacter(0, 79) = 41", "!formattedCharacter(0, 117) = 41"));
+                "!formattedCharacter(0, 78) = 122", "!formattedCharacter(0, 79) = 41",
+                "!formattedCharacter(0, 117) = 41"));
         at(30, "NO_SUCH_ELEMENT if there is no such register or no such character", join(GROWING, "term 0 h(z) = 2",
                 "!formattedCharacter(0, 3) = 41", "!formattedCharacter(0, {4,-1,LOW,HIGH}) = NO_SUCH_ELEMENT",
                 "!formattedCharacter({-1,4,LOW,HIGH}, {0,-1,4}) = NO_SUCH_ELEMENT",
@@ -832,7 +900,8 @@ public final class BoundaryTest {
                 "!compareTerms(1, 0) = 0", "!compareTerms(0, 0) = 1"));
         at(31, "NO_SUCH_ELEMENT if one of the registers does not exist", "!compareTerms({0,3}, {0,3}) = 1",
                 "!compareTerms({-1,4,LOW,HIGH}, {0,3}) = NO_SUCH_ELEMENT",
-                "!compareTerms({0,3}, {-1,4,LOW,HIGH}) = NO_SUCH_ELEMENT", "!compareTerms({-1,4}, {-1,4}) = NO_SUCH_ELEMENT");
+                "!compareTerms({0,3}, {-1,4,LOW,HIGH}) = NO_SUCH_ELEMENT",
+                "!compareTerms({-1,4}, {-1,4}) = NO_SUCH_ELEMENT");
         at(32, "Returns the size of the term", join(GROWING, "term 0 h(z) = 2", "rewriteOutermost(0, 100) = 38",
                 "copyTerm(0, 3) = 40", "termSize(3) = 40", "compareTerms(0, 3) = 1", "!copyTerm(0, 0) = 40",
                 "copyTerm(1, 0) = 1", "shows 0 z", "termSize(3) = 40"));
@@ -840,17 +909,21 @@ public final class BoundaryTest {
                 "!copyTerm({-1,4,LOW,HIGH}, {0,3}) = NO_SUCH_ELEMENT",
                 "!copyTerm({0,3}, {-1,4,LOW,HIGH}) = NO_SUCH_ELEMENT", "!copyTerm({-1,4}, {-1,4}) = NO_SUCH_ELEMENT",
                 "copyTerm(3, 0) = 2", "shows 0 h(x)");
-        at(33, "Returns the size of the term", join(SIX_RULES, "loadLeft(0, 0) = 2", "loadLeft(5, 3) = 3", "shows 0 h(z)",
+        at(33, "Returns the size of the term", join(SIX_RULES, "loadLeft(0, 0) = 2", "loadLeft(5, 3) = 3",
+                "shows 0 h(z)",
                 "shows 3 g(x,x)", "rewriteAt(3, 0) = 3", "shows 3 f(x,x)", "loadLeft(5, 3) = 3", "shows 3 g(x,x)"));
         at(33, "NO_SUCH_ELEMENT if there is no such rule or register", join(SIX_RULES, "term 0 s(x) = 2",
-                "!loadLeft(" + SIX + ", {0,3}) = NO_SUCH_ELEMENT", "!loadLeft({0,5}, {-1,4,LOW,HIGH}) = NO_SUCH_ELEMENT",
+                "!loadLeft(" + SIX + ", {0,3}) = NO_SUCH_ELEMENT",
+                "!loadLeft({0,5}, {-1,4,LOW,HIGH}) = NO_SUCH_ELEMENT",
                 "!loadLeft(6, 4) = NO_SUCH_ELEMENT", "removeRule(5) = 5", "!loadLeft(5, 0) = NO_SUCH_ELEMENT"));
         at(33, "NO_SUCH_ELEMENT if there is no such rule or register", "!loadLeft(0, 0) = NO_SUCH_ELEMENT",
                 "~rule h(x)>y = INVALID", "!loadLeft(0, 0) = NO_SUCH_ELEMENT");
-        at(34, "Returns the size of the term", join(SIX_RULES, "loadRight(0, 0) = 1", "loadRight(4, 3) = 3", "shows 0 z",
+        at(34, "Returns the size of the term", join(SIX_RULES, "loadRight(0, 0) = 1", "loadRight(4, 3) = 3",
+                "shows 0 z",
                 "shows 3 f(x,y)", "loadRight(5, 3) = 1", "shows 3 x"));
         at(34, "NO_SUCH_ELEMENT if there is no such rule or register", join(SIX_RULES, "term 0 s(x) = 2",
-                "!loadRight(" + SIX + ", {0,3}) = NO_SUCH_ELEMENT", "!loadRight({0,5}, {-1,4,LOW,HIGH}) = NO_SUCH_ELEMENT",
+                "!loadRight(" + SIX + ", {0,3}) = NO_SUCH_ELEMENT",
+                "!loadRight({0,5}, {-1,4,LOW,HIGH}) = NO_SUCH_ELEMENT",
                 "!loadRight(6, 4) = NO_SUCH_ELEMENT", "removeRule(5) = 5", "!loadRight(5, 0) = NO_SUCH_ELEMENT"));
         at(34, "NO_SUCH_ELEMENT if there is no such rule or register", "!loadRight(0, 0) = NO_SUCH_ELEMENT",
                 "~rule h(x)>y = INVALID", "!loadRight(0, 0) = NO_SUCH_ELEMENT");
@@ -865,7 +938,8 @@ public final class BoundaryTest {
             "term 0 f(" + NINE + "," + NINE + ",z) = 22");
 
     private static void redexes() {
-        at(35, "Returns 1 if it matches, 0 if not", join(SIX_RULES, "term 0 f(h(z),g(z,z)) = 6", "!matches(0, 0, 1) = 1",
+        at(35, "Returns 1 if it matches, 0 if not", join(SIX_RULES, "term 0 f(h(z),g(z,z)) = 6",
+                "!matches(0, 0, 1) = 1",
                 "!matches(0, 0, {0,2,3,5}) = 0", "!matches(5, 0, 3) = 1", "!matches(5, 0, {0,5}) = 0"));
         at(35, "Returns 1 if it matches, 0 if not", "rule g(x,c(x,y))>x = 0", "term 0 g(s(z),c(s(z),w)) = 7",
                 "!matches(0, 0, 0) = 1", "term 0 g(s(z),c(z,s(z))) = 7", "!matches(0, 0, 0) = 0", "term 0 g(x,x) = 3",
@@ -873,20 +947,24 @@ public final class BoundaryTest {
         at(35, "NO_SUCH_ELEMENT if there is no such rule, register or position", join(SIX_RULES, "term 0 f(z,h(z)) = 4",
                 "!matches(0, 0, {0,3}) = 0", "!matches(0, 0, {-1,4,40,LOW,HIGH}) = NO_SUCH_ELEMENT",
                 "!matches(" + SIX + ", 0, 0) = NO_SUCH_ELEMENT", "!matches(5, {-1,4,LOW,HIGH}, 0) = NO_SUCH_ELEMENT",
-                "!matches(0, 3, 0) = 0", "!matches(0, 3, 1) = NO_SUCH_ELEMENT", "!matches(6, 4, 40) = NO_SUCH_ELEMENT"));
+                "!matches(0, 3, 0) = 0", "!matches(0, 3, 1) = NO_SUCH_ELEMENT",
+                "!matches(6, 4, 40) = NO_SUCH_ELEMENT"));
         at(35, "NO_SUCH_ELEMENT if there is no such rule, register or position", join(GROWING, "term 0 h(z) = 2",
                 "rewriteOutermost(0, 100) = 38", "!matches(0, 0, 39) = 0", "!matches(0, 0, 40) = NO_SUCH_ELEMENT"));
         at(35, "NO_SUCH_ELEMENT if there is no such rule, register or position", "!matches(0, 0, 0) = NO_SUCH_ELEMENT");
         at(36, "Returns the number of redexes", "term 0 h(h(z)) = 3", "!redexCount(0) = 0", "rule h(x)>s(s(x)) = 0",
-                "!redexCount(0) = 2", "!redexCount(1) = 0", "term 0 " + nested("h(", 26, "z") + " = 27", "!redexCount(0) = 26");
-        at(36, "NO_SUCH_ELEMENT if there is no such register", "rule h(x)>x = 0", "term 0 h(z) = 2", "term 3 h(h(z)) = 3",
+                "!redexCount(0) = 2", "!redexCount(1) = 0", "term 0 " + nested("h(", 26, "z") + " = 27",
+                "!redexCount(0) = 26");
+        at(36, "NO_SUCH_ELEMENT if there is no such register", "rule h(x)>x = 0", "term 0 h(z) = 2",
+                "term 3 h(h(z)) = 3",
                 "!redexCount(0) = 1", "!redexCount(3) = 2", "!redexCount({-1,4,LOW,HIGH,256}) = NO_SUCH_ELEMENT");
         at(37, "The redexes are numbered from 0 in ascending order of their positions", "rule h(s(x))>x = 0",
                 "rule f(x,y)>x = 1", "term 0 c(f(h(s(z)),z),h(s(z))) = 9", "!redexAt(0, 0) = 1", "!redexAt(0, 1) = 2",
                 "!redexAt(0, 2) = 6", "!redexAt(0, 3) = NOT_FOUND");
         at(37, "Returns the position", "rule h(x)>s(h(x)) = 0", "term 0 h(z) = 2", "!redexAt(0, 0) = 0",
                 "rewriteOutermost(0, 100) = 38", "!redexAt(0, 0) = 38", "!redexAt(0, 1) = NOT_FOUND");
-        at(37, "NO_SUCH_ELEMENT if there is no such register or index is negative", "rule h(x)>x = 0", "term 3 h(z) = 2",
+        at(37, "NO_SUCH_ELEMENT if there is no such register or index is negative", "rule h(x)>x = 0",
+                "term 3 h(z) = 2",
                 "!redexAt(3, 0) = 0", "!redexAt({0,3}, {-1,LOW}) = NO_SUCH_ELEMENT",
                 "!redexAt({-1,4,LOW,HIGH}, {0,-1,1}) = NO_SUCH_ELEMENT");
         at(37, "NOT_FOUND if index is not less than the number of redexes", "!redexAt(0, {0,1,HIGH}) = NOT_FOUND",
@@ -921,9 +999,11 @@ public final class BoundaryTest {
     }
 
     private static void rewriteOutermost() {
-        String sentence = "Performs rewrite steps at the outermost redex of the term in a register, one after the other, "
-                + "until the given number of steps is reached, the term is a normal form, or the next step is impossible";
-        at(39, sentence, "rule f(x,y)>f(y,x) = 0", "term 0 f(z,x) = 3", "rewriteOutermost(0, 99) = 99", "shows 0 f(x,z)",
+        String sentence = "Performs rewrite steps at the outermost redex of the term in a register, one after the "
+                + "other, until the given number of steps is reached, the term is a normal form, or the next step is "
+                + "impossible";
+        at(39, sentence, "rule f(x,y)>f(y,x) = 0", "term 0 f(z,x) = 3", "rewriteOutermost(0, 99) = 99",
+                "shows 0 f(x,z)",
                 "rewriteOutermost(0, 100) = 100", "shows 0 f(x,z)");
         at(39, sentence, "rule h(s(x))>h(x) = 0", "term 0 h(" + nested("s(", 20, "z") + ") = 22",
                 "rewriteOutermost(0, 19) = 19", "rewriteOutermost(0, 2) = 1", "!rewriteOutermost(0, 100) = 0",
@@ -943,19 +1023,22 @@ public final class BoundaryTest {
     }
 
     private static void findLoop() {
-        at(40, "The register does not change", join(HUNDRED_STEPS, "!findLoop(0, 100) = 100", "!findLoop(0, 99) = NOT_FOUND"));
+        at(40, "The register does not change", join(HUNDRED_STEPS, "!findLoop(0, 100) = 100",
+                "!findLoop(0, 99) = NOT_FOUND"));
         at(40, "Returns the lowest number of steps after which the term is equal to an earlier term of the sequence",
                 "rule h(x)>h(x) = 0", "term 0 h(z) = 2", "!findLoop(0, 1) = 1", "!findLoop(0, 100) = 1");
         at(40, "Returns the lowest number of steps after which the term is equal to an earlier term of the sequence",
-                "rule h(s(x))>h(x) = 0", "rule h(z)>h(s(z)) = 1", "term 3 h(s(s(s(z)))) = 5", "!findLoop(3, 3) = NOT_FOUND",
+                "rule h(s(x))>h(x) = 0", "rule h(z)>h(s(z)) = 1", "term 3 h(s(s(s(z)))) = 5",
+                "!findLoop(3, 3) = NOT_FOUND",
                 "!findLoop(3, 4) = 4", "!findLoop(3, 5) = 4");
-        at(40, "NO_SUCH_ELEMENT if there is no such register", "rule h(x)>h(x) = 0", "term 0 h(z) = 2", "term 3 h(z) = 2",
+        at(40, "NO_SUCH_ELEMENT if there is no such register", "rule h(x)>h(x) = 0", "term 0 h(z) = 2",
+                "term 3 h(z) = 2",
                 "!findLoop({0,3}, 1) = 1", "!findLoop({-1,4,LOW,HIGH}, {1,100}) = NO_SUCH_ELEMENT",
                 "!findLoop({-1,4}, {0,101}) = NO_SUCH_ELEMENT");
         at(40, "OUT_OF_RANGE if limit is not from 1 to 100", "rule h(x)>h(x) = 0", "term 0 h(z) = 2",
                 "!findLoop(0, {1,100}) = 1", "!findLoop({0,3}, {0,-1,101,LOW,HIGH}) = OUT_OF_RANGE");
-        String notFound = "NOT_FOUND if there is no repetition within the limit, or if a normal form or an impossible step "
-                + "comes first";
+        String notFound = "NOT_FOUND if there is no repetition within the limit, or if a normal form or an impossible "
+                + "step comes first";
         at(40, notFound, join(HUNDRED_STEPS, "rewriteOutermost(0, 1) = 1", "!findLoop(0, 99) = NOT_FOUND",
                 "!findLoop(0, 100) = 100"));
         at(40, notFound, "rule h(s(x))>h(x) = 0", "term 0 h(s(z)) = 3", "!findLoop({0,1}, {1,2,100}) = NOT_FOUND");
@@ -977,6 +1060,9 @@ public final class BoundaryTest {
         at(41, "Returns the number of terms", join(GROWING, "term 0 h(z) = 2", "rewriteOutermost(0, 10) = 10",
                 "!exploredCount(0, 28) = 28", "!exploredCount(0, 29) = 29", "!exploredCount(0, 30) = 29",
                 "rewriteOutermost(0, 28) = 28", "!exploredCount(0, 30) = 1"));
+        at(41, "Returns the number of terms", "rule h(x)>h(x) = 0", "term 0 h(z) = 2",
+                "!exploredCount(0, {1,2,30}) = 1",
+                "rule f(x,y)>f(y,x) = 1", "term 0 f(z,x) = 3", "!exploredCount(0, {2,3,30}) = 2");
         at(41, "NO_SUCH_ELEMENT if there is no such register", "!exploredCount({0,3}, {1,30}) = 1",
                 "!exploredCount(" + NO_REGISTER + ", {1,30,0,31}) = NO_SUCH_ELEMENT");
         at(41, "OUT_OF_RANGE if limit is not from 1 to 30", "!exploredCount(0, {1,30}) = 1",
@@ -1003,11 +1089,20 @@ public final class BoundaryTest {
     }
 
     private static void normalForms() {
-        at(44, "Returns the size of the term", join(THIRTY_TERMS, "loadNormalForm(0, 10, 3) = 5", "shows 3 c(h(z),h(z))",
+        at(44, "Returns the size of the term", join(THIRTY_TERMS, "loadNormalForm(0, 10, 3) = 5",
+                "shows 3 c(h(z),h(z))",
                 "loadNormalForm(0, 30, 0) = 5", "shows 0 c(h(z),h(z))", "!loadNormalForm(0, 1, 0) = 5"));
         at(44, "Returns the size of the term", join(GROWING, "term 0 f(z,z) = 3", "rewriteOutermost(0, 37) = 37",
                 "removeRule(1) = 2", "loadNormalForm(0, 1, 3) = 40",
                 "compareTerms(0, 3) = 1"));
+        // The lowest normal form is the first that is found, then the last.
+        at(44, "Returns the size of the term", "rule f(z,y)>z = 0", "rule f(x,y)>s(s(y)) = 1", "rule h(z)>z = 2",
+                "term 0 f(h(z),z) = 4", "!exploredNormalForms(0, 30) = 2", "loadNormalForm(0, 3, 1) = 1", "shows 1 z",
+                "loadNormalForm(0, 4, 2) = 1", "shows 2 z");
+        at(44, "Returns the size of the term", "rule f(z,y)>g(y,y) = 0", "rule f(x,y)>s(y) = 1",
+                "rule g(x,y)>x = 2", "rule h(z)>z = 3", "term 0 f(h(z),y) = 4", "loadNormalForm(0, 2, 3) = 2",
+                "shows 3 s(y)",
+                "loadNormalForm(0, 30, 3) = 1", "shows 3 y", "exploredNormalForms(0, 30) = 2");
         at(44, "NO_SUCH_ELEMENT if there is no such register or no such target", join(THIRTY_TERMS,
                 "!loadNormalForm(" + NO_REGISTER + ", {1,30,0,31}, {0,3}) = NO_SUCH_ELEMENT",
                 "!loadNormalForm({0,3}, {1,30,0,31}, " + NO_REGISTER + ") = NO_SUCH_ELEMENT",
@@ -1042,10 +1137,12 @@ public final class BoundaryTest {
         at(46, "FULL if the text has 80 characters", "type " + LONG_TERM, "!appendCharacter({32,41,126}) = FULL",
                 "!appendCharacter({31,127}) = OUT_OF_RANGE", "textLength() = 80", "clearText() = 80",
                 "appendCharacter(122) = 1", "parseTerm(0) = 1");
-        at(46, "FULL if the text has 80 characters", "type " + LONG_RULE, "!appendCharacter(122) = FULL", "addRule() = 0",
+        at(46, "FULL if the text has 80 characters", "type " + LONG_RULE, "!appendCharacter(122) = FULL",
+                "addRule() = 0",
                 "appendCharacter(122) = 1");
         at(47, "Returns the length that the text had", "!clearText() = 0", "type s(", "clearText() = 2",
-                "!clearText() = 0", "textLength() = 0", "type " + "s(".repeat(40), "clearText() = 80", "!clearText() = 0",
+                "!clearText() = 0", "textLength() = 0", "type " + "s(".repeat(40), "clearText() = 80",
+                "!clearText() = 0",
                 "~parseTerm(0) = -100", "term 0 s(z) = 2");
         at(48, "Returns 0 to 80", "!textLength() = 0", "appendCharacter(122) = 1", "!textLength() = 1",
                 "type " + "z".repeat(78), "!textLength() = 79", "appendCharacter(122) = 80", "!textLength() = 80",
@@ -1054,7 +1151,8 @@ public final class BoundaryTest {
 
     private static void snapshots() {
         at(49, "An earlier snapshot is replaced", join(SIX_RULES, "term 0 f(z,z) = 3", "saveSnapshot() = 6",
-                "removeRule(0) = 5", "term 0 s(z) = 2", "saveSnapshot() = 5", "removeRule(0) = 4", "restoreSnapshot() = 5",
+                "removeRule(0) = 5", "term 0 s(z) = 2", "saveSnapshot() = 5", "removeRule(0) = 4",
+                "restoreSnapshot() = 5",
                 "loadLeft(0, 1) = 3", "shows 1 h(s(x))", "shows 0 s(z)", "!leftSize(5) = NO_SUCH_ELEMENT"));
         at(49, "An earlier snapshot is replaced", "rule h(x)>h(x) = 0", "saveSnapshot() = 1", "removeRule(0) = 0",
                 "saveSnapshot() = 0", "rule h(x)>x = 0", "restoreSnapshot() = 0", "ruleCount() = 0", "pairCount() = 0",
@@ -1063,7 +1161,8 @@ public final class BoundaryTest {
                 "saveSnapshot() = 6", "type h(x)>x", "saveSnapshot() = 6", "!addRule() = FULL", "removeRule(0) = 5",
                 "saveSnapshot() = 5", "textLength() = 6"));
         at(50, "The snapshot is kept, and the text buffer does not change", "rule h(x)>x = 0", "saveSnapshot() = 1",
-                "term 0 s(z) = 2", "type s(", "restoreSnapshot() = 1", "shows 0 z", "textLength() = 2", "removeRule(0) = 0",
+                "term 0 s(z) = 2", "type s(", "restoreSnapshot() = 1", "shows 0 z", "textLength() = 2",
+                "removeRule(0) = 0",
                 "restoreSnapshot() = 1", "ruleCount() = 1", "!restoreSnapshot() = 1", "~parseTerm(0) = -102");
         at(50, "The snapshot is kept, and the text buffer does not change", "saveSnapshot() = 0", "type " + LONG_TERM,
                 "!restoreSnapshot() = 0", "!appendCharacter(122) = FULL", "parseTerm(0) = 28");
@@ -1085,6 +1184,7 @@ public final class BoundaryTest {
         for (Method method : DependencyPairAnalyzer.class.getMethods()) {
             METHODS.put(method.getName(), method);
         }
+        symbols();
         termsAndRules();
         rewritingAndGraphs();
         textAndErrors();
