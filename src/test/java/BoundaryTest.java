@@ -356,6 +356,10 @@ public final class BoundaryTest {
      */
     private static void checkSentences() throws IOException {
         where = "the sentences";
+        if (!Files.exists(DOCUMENT)) {
+            System.out.println("the sentences are not compared: there is no " + DOCUMENT);
+            return;
+        }
         String document = Files.readString(DOCUMENT, StandardCharsets.UTF_8);
         Map<Integer, List<String>> sentences = sentences(document);
         if (sentences.size() != LAST_PROMISE) {
@@ -523,6 +527,33 @@ public final class BoundaryTest {
                 + "expanded.", join(THIRTY_TERMS, "!exploredCount(0, 29) = 29", "!exploredCount(0, 30) = 30",
                 "rewriteAt(0, 7) = 13", "!exploredCount(0, 30) = 25", "!exploredCount(0, 25) = 25",
                 "!exploredCount(0, 24) = 24"));
+    }
+
+    private static void choices() {
+        at(DESCRIPTION, "The outermost redex is the redex with the lowest position.",
+                "rule h(x)>x = 0", "rule f(x,y)>y = 1", "term 0 c(f(h(z),z),h(x)) = 7", "!redexAt(0, 0) = 1",
+                "rewriteOutermost(0, 1) = 1", "shows 0 c(z,h(x))", "rewriteOutermost(0, 1) = 1", "shows 0 c(z,x)");
+        at(DESCRIPTION, "Repeated variables play no role.",
+                "rule g(x,y)>f(z,s(z)) = 0", "rule f(x,x)>g(x,x) = 1", "rule g(z,s(z))>h(z) = 2", "!hasEdge(0, 1) = 1",
+                "!hasEdge(1, {0,2}) = 1", "!hasEdge(0, 2) = 0", "term 0 f(z,s(z)) = 4", "!matches(1, 0, 0) = 0");
+        at(DESCRIPTION, "The components are numbered from 0 in the order of their lowest pair numbers.",
+                "rule f(x,y)>g(x,y) = 0", "rule h(x)>h(x) = 1", "rule g(x,y)>f(x,y) = 2", "!componentOf({0,2}) = 0",
+                "!componentOf(1) = 1", "removeRule(0) = 2", "!componentOf(0) = 0", "!componentOf(1) = NOT_FOUND");
+        at(DESCRIPTION, "equal graphs count once.",
+                "rule h(s(x))>h(x) = 0", "!closureSize() = 1", "rule h(c(x,y))>c(h(x),h(y)) = 1", "!pairCount() = 3",
+                "!closureSize() = 1", "rule f(z,z)>h(z) = 2", "!closureSize() = 3", "rule f(x,y)>h(x) = 3",
+                "!closureSize() = 5", "rule f(x,s(y))>h(x) = 4", "!closureSize() = 5");
+        at(DESCRIPTION, "The projection of a component is the lowest valid one.",
+                "setArity(0, 3) = 2", "rule f(s(x),s(y),s(w))>f(x,y,w) = 0", "!projection(0) = 111",
+                "rule f(x,y,w)>f(s(z),y,w) = 1", "!projection(0) = 211", "rule f(x,y,w)>f(x,s(z),w) = 2",
+                "!projection(0) = 311", "rule f(x,y,w)>f(x,y,s(z)) = 3", "!projection(0) = NOT_FOUND");
+        at(DESCRIPTION, "It repeatedly expands the lowest discovered term that was not expanded before",
+                "rule h(x)>c(x,x) = 0", "rule f(x,y)>s(g(x,y)) = 1", "rule g(x,y)>x = 2", "term 0 f(h(z),z) = 4",
+                "!lastExploredSize(0, 1) = 4", "!lastExploredSize(0, {2,3}) = 5", "!lastExploredSize(0, 4) = 3",
+                "!lastExploredSize(0, 5) = 4", "!lastExploredSize(0, {6,30}) = 6",
+                "!exploredCount(0, 30) = 6");
+        at(DESCRIPTION, "There are no spaces.", "type s( z)", "~parseTerm(0) = -102", "type h(x) >x",
+                "~addRule() = -104", "type h(x)>x ", "~addRule() = -106", "type  ", "~parseTerm(0) = -100");
     }
 
     private static void textAndErrors() {
@@ -1187,6 +1218,7 @@ public final class BoundaryTest {
         symbols();
         termsAndRules();
         rewritingAndGraphs();
+        choices();
         textAndErrors();
         newObjectAndArities();
         addRule();
