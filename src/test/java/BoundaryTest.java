@@ -17,10 +17,11 @@ import java.util.regex.Pattern;
 
 /**
  * A test of its own for each sentence of the document that names a boundary: the last input that is accepted, the
- * first that is refused, the error code, which of several errors is returned, and the state afterwards.
+ * first that is refused, the error code, which of several errors is returned, and the state afterwards. The other
+ * sentences of the description, which say what its words mean, have a test each too.
  *
- * <p>A test quotes its sentence, which must stand in DOC.md, and each sentence that the promises need must have a
- * test. It is a run of steps on a new object:
+ * <p>A test quotes its sentence, which must stand in DOC.md, and each sentence of the description and of the promises
+ * must have a test. It is a run of steps on a new object:
  *
  * <ul>
  *   <li>{@code name(1, 2) = 3}: a call and the answer that is due; {@code {1,2}} stands for each of
@@ -350,6 +351,37 @@ public final class BoundaryTest {
         return sentences;
     }
 
+    // These say what the class is for, and that it need not bear several threads; no answer hangs on them.
+    private static final Set<String> WITHOUT_TEST = Set.of(
+            "The object holds a set of rewrite rules.",
+            "It computes their dependency pairs and dependency graph, tests termination by the size-change principle "
+                    + "and by the subterm criterion, and rewrites terms.",
+            "The class is not thread-safe.");
+    // The word or two words with which a paragraph begins.
+    private static final Pattern LABEL = Pattern.compile("[A-Z][a-z]+( [a-z]+)?\\.");
+
+    /** The sentences and clauses of the description that lack a test. */
+    private static void checkDescription(String description) {
+        int start = description.indexOf("## Description") + "## Description".length();
+        String body = description.substring(start, description.indexOf("Examples: ")).trim();
+        for (String clause : body.split("(?<=[.;:]) ")) {
+            boolean excused = LABEL.matcher(clause).matches() || WITHOUT_TEST.contains(clause);
+            if (!excused && !isQuoted(clause)) {
+                fault("no test for " + clause);
+            }
+        }
+    }
+
+    private static boolean isQuoted(String clause) {
+        for (String tested : TESTED) {
+            String quote = tested.substring(tested.indexOf(' ') + 1);
+            if (tested.startsWith(DESCRIPTION + " ") && (clause.contains(quote) || quote.contains(clause))) {
+                return true;
+            }
+        }
+        return false;
+    }
+
     /**
      * Each sentence of a promise has a test, but for the first one, which only says what the method is for; those of
      * the promises 1 and 39 name a boundary too. Each test quotes a sentence that is there.
@@ -374,6 +406,7 @@ public final class BoundaryTest {
             }
         });
         String description = document.substring(0, document.indexOf("## Promise 1:")).replaceAll("\\s+", " ");
+        checkDescription(description);
         for (String tested : TESTED) {
             int promise = Integer.parseInt(tested.substring(0, tested.indexOf(' ')));
             String sentence = tested.substring(tested.indexOf(' ') + 1);
@@ -584,6 +617,210 @@ public final class BoundaryTest {
                 "type h(h(z))>x)", "!addRule() = FULL", "!parseTerm(4) = NO_SUCH_ELEMENT", "removeRule(5) = 5",
                 "~addRule() = -109", "!rewriteOutermost(4, 101) = NO_SUCH_ELEMENT",
                 "!findLoop(4, 0) = NO_SUCH_ELEMENT", "!loadNormalForm(0, 31, 4) = NO_SUCH_ELEMENT"));
+    }
+
+    // ---- The description: what its words mean ----
+
+    private static void termsInWords() {
+        at(DESCRIPTION, "A term is a symbol with arguments, which are terms.",
+                "term 0 f(s(c(x,z)),h(g(y,w))) = 9", "shows 0 f(s(c(x,z)),h(g(y,w)))", "~term 0 (z) = -100",
+                "~term 0 s((z)) = -102", "~term 0 s(k) = -102", "shows 0 f(s(c(x,z)),h(g(y,w)))");
+        at(DESCRIPTION, "The size of a term is the number of its symbols.",
+                "term 0 w = 1", "term 1 c(x,x) = 3", "term 2 f(h(z),g(s(z),w)) = 7", "!termSize(0) = 1",
+                "!termSize(1) = 3", "!termSize(2) = 7", "rule f(s(x),y)>c(x,s(s(y))) = 0", "!leftSize(0) = 4",
+                "!rightSize(0) = 5");
+        at(DESCRIPTION,
+                "then the positions of the first argument follow, then those of the second argument, and so on.",
+                "setArity(0, 3) = 2", "rule h(x)>x = 0", "term 0 f(h(x),c(h(y),h(w)),h(z)) = 10", "!redexAt(0, 0) = 1",
+                "!redexAt(0, 1) = 4", "!redexAt(0, 2) = 6", "!redexAt(0, 3) = 8", "!redexAt(0, 4) = NOT_FOUND",
+                "rewriteAt(0, 6) = 9", "shows 0 f(h(x),c(h(y),w),h(z))", "rewriteAt(0, 7) = 8",
+                "shows 0 f(h(x),c(h(y),w),z)");
+        at(DESCRIPTION, "The subterm at a position is the term whose root is there.",
+                "rule h(c(x,x))>x = 0", "term 0 s(h(c(s(z),s(z)))) = 7", "!matches(0, 0, 1) = 1",
+                "!matches(0, 0, {0,2,3,4,5,6}) = 0", "rewriteAt(0, 1) = 3", "shows 0 s(s(z))",
+                "term 0 c(h(c(z,z)),s(z)) = 7", "rewriteAt(0, 1) = 4", "shows 0 c(z,s(z))");
+        at(DESCRIPTION, "They are numbered from 0 in the order in which they were added;",
+                "rule h(z)>z = 0", "rule f(x,y)>s(x) = 1", "rule g(x,x)>c(x,x) = 2", "loadLeft(0, 0) = 2",
+                "shows 0 h(z)", "loadLeft(1, 1) = 3", "shows 1 f(x,y)", "loadRight(2, 2) = 3", "shows 2 c(x,x)",
+                "removeRule(0) = 2", "rule h(z)>s(z) = 2", "loadRight(2, 3) = 2", "shows 3 s(z)", "loadRight(0, 3) = 2",
+                "shows 3 s(x)");
+    }
+
+    private static void rewritingInWords() {
+        at(DESCRIPTION, "A rule matches a term if some substitution of terms for the variables of the rule turns the "
+                + "left side into that term.",
+                "rule f(x,s(y))>x = 0", "rule f(x,x)>x = 1", "term 0 f(h(z),s(c(z,w))) = 7", "!matches(0, 0, 0) = 1",
+                "!matches(1, 0, 0) = 0", "term 1 f(h(z),h(z)) = 5", "!matches(0, 1, 0) = 0", "!matches(1, 1, 0) = 1",
+                "term 2 g(z,s(z)) = 4", "!matches({0,1}, 2, 0) = 0", "term 3 f(y,s(x)) = 4", "!matches(0, 3, 0) = 1",
+                "rewriteAt(3, 0) = 1", "shows 3 y");
+        at(DESCRIPTION, "A position of a term is a redex if some rule matches the subterm there.",
+                "rule h(z)>z = 0", "rule g(x,x)>x = 1", "term 0 g(h(z),h(s(z))) = 6", "!redexCount(0) = 1",
+                "!redexAt(0, 0) = 1", "rule h(s(x))>x = 2", "!redexCount(0) = 2", "!redexAt(0, 1) = 3",
+                "term 0 g(h(z),h(z)) = 5", "!redexCount(0) = 3", "!redexAt(0, 0) = 0");
+        at(DESCRIPTION, "A rewrite step at a redex replaces the subterm by the right side, with the same substitution, "
+                + "of the matching rule with the lowest number.",
+                "rule f(c(x,y),w)>c(w,c(y,y)) = 0", "term 0 s(f(c(z,h(x)),s(y))) = 8", "rewriteAt(0, 1) = 9",
+                "shows 0 s(c(s(y),c(h(x),h(x))))");
+        at(DESCRIPTION, "An exploration starts from a register and has a limit.",
+                "rule h(s(x))>h(x) = 0", "term 0 h(s(s(z))) = 4", "!exploredCount(0, 1) = 1",
+                "!exploredCount(0, 2) = 2", "!exploredCount(0, {3,4,30}) = 3", "!exploredCount({1,2,3}, 30) = 1");
+        at(DESCRIPTION, "It maintains a set of discovered terms, at first only the term of the register.",
+                "rule f(x,y)>z = 0", "term 0 c(f(x,x),f(x,x)) = 7", "!exploredCount(0, 30) = 4",
+                "!lastExploredSize(0, 1) = 7", "!lastExploredSize(0, 2) = 5", "!lastExploredSize(0, 3) = 3",
+                "!lastExploredSize(0, 4) = 5", "!exploredNormalForms(0, 30) = 1");
+        at(DESCRIPTION, "every result of a possible rewrite step at any redex of this term is discovered.",
+                "rule h(x)>c(x,x) = 0", "term 0 h(h(z)) = 3", "!exploredCount(0, 30) = 6",
+                "!lastExploredSize(0, 2) = 4", "!lastExploredSize(0, 3) = 5", "!lastExploredSize(0, {4,5}) = 6",
+                "!lastExploredSize(0, 6) = 7",
+                "loadNormalForm(0, 30, 1) = 7", "shows 1 c(c(z,z),c(z,z))");
+    }
+
+    private static void pairsInWords() {
+        at(DESCRIPTION, "For each rule and each position of its right side where a function occurs, there is one "
+                + "dependency pair.",
+                "rule f(x,y)>c(x,s(y)) = 0", "!pairCount() = 0", "rule g(x,y)>f(g(x,h(y)),s(h(x))) = 1",
+                "!pairCount() = 4", "rule h(x)>h(h(x)) = 2", "!pairCount() = 6", "rule h(x)>h(h(x)) = 3",
+                "!pairCount() = 8");
+        at(DESCRIPTION, "The pairs are numbered from 0, ordered by rule number and then by position.",
+                "rule f(x,y)>c(x,s(y)) = 0", "rule g(x,y)>f(g(x,h(y)),s(h(x))) = 1", "rule h(x)>s(h(h(x))) = 2",
+                "!pairRule({0,1,2,3}) = 1", "!pairRule({4,5}) = 2", "!pairPosition(0) = 0", "!pairPosition(1) = 1",
+                "!pairPosition(2) = 3", "!pairPosition(3) = 6", "!pairPosition(4) = 1", "!pairPosition(5) = 2",
+                "removeRule(0) = 2", "!pairRule({0,3}) = 0", "!pairRule({4,5}) = 1");
+        at(DESCRIPTION, "The source of a pair is the left side of the rule.",
+                "rule f(s(x),y)>h(x) = 0", "rule h(c(x,y))>f(x,h(y)) = 1", "!sourceFunction(0) = 0",
+                "!sourceFunction({1,2}) = 2", "!sizeRelation(0, 0, 0) = 2", "!sizeRelation(0, 1, 0) = 0",
+                "!sizeRelation(2, 0, 0) = 2");
+        at(DESCRIPTION, "The target of a pair is the subterm of the right side at the position.",
+                "rule f(x,y)>s(g(h(x),y)) = 0", "!targetFunction(0) = 1", "!targetFunction(1) = 2",
+                "!sizeRelation(0, 1, 1) = 1", "!sizeRelation(0, 0, 0) = 0", "!sizeRelation(1, 0, 0) = 1",
+                "!sizeRelation(1, 1, 0) = 0");
+        at(DESCRIPTION, "There is an edge from pair i to pair j if the target of i and the source of j have the same "
+                + "root and each argument of that target is compatible with the corresponding argument of that source.",
+                "rule f(x,y)>g(s(x),z) = 0", "rule g(s(x),z)>f(x,x) = 1", "rule g(z,z)>f(z,z) = 2",
+                "rule g(s(x),s(y))>f(z,z) = 3", "!hasEdge(0, 1) = 1", "!hasEdge(0, {0,2,3}) = 0",
+                "!hasEdge({1,2,3}, 0) = 1", "!hasEdge({1,2,3}, {1,2,3}) = 0", "!edgeCount() = 4");
+        at(DESCRIPTION, "A term t is compatible with a term u if t or u is a variable or the root of t is a function;",
+                "rule f(x,y)>f(h(x),y) = 0", "rule f(s(z),c(z,z))>h(z) = 1", "rule g(x,z)>f(z,z) = 2",
+                "!hasEdge(0, {0,1,2}) = 1", "!hasEdge(3, {0,1}) = 1", "!hasEdge(3, 2) = 0", "!hasEdge({1,2}, 0) = 0");
+        at(DESCRIPTION, "otherwise t is compatible with u if both have the same root and each argument of t is "
+                + "compatible with the corresponding argument of u.",
+                "rule f(x,y)>g(c(s(x),z),s(h(x))) = 0", "rule g(c(s(z),z),s(s(z)))>h(z) = 1",
+                "rule g(c(z,z),x)>h(x) = 2", "rule g(c(x,s(y)),w)>h(w) = 3", "rule g(c(s(s(z)),w),s(z))>h(z) = 4",
+                "rule g(s(x),w)>h(w) = 5", "!hasEdge(0, {2,5}) = 1", "!hasEdge(0, {0,1,3,4,6}) = 0",
+                "!edgeCount() = 2");
+        at(DESCRIPTION, "Two pairs are in the same component if there are paths of at least one edge from each of them "
+                + "to the other one.",
+                "rule f(x,y)>g(x,y) = 0", "rule g(x,y)>h(x) = 1", "rule h(x)>f(x,x) = 2", "!hasEdge(0, 2) = 0",
+                "!componentOf({0,1,2}) = 0", "!componentCount() = 1", "removeRule(1) = 2", "!hasEdge(1, 0) = 1",
+                "!componentOf({0,1}) = NOT_FOUND", "!componentCount() = 0");
+    }
+
+    private static void sizeChangeInWords() {
+        at(DESCRIPTION, "Arguments are numbered from 0.",
+                "setArity(0, 3) = 2", "rule f(x,y,s(w))>f(s(w),x,y) = 0", "!sizeRelation(0, 2, 0) = 1",
+                "!sizeRelation(0, 0, 1) = 1", "!sizeRelation(0, 1, 2) = 1", "!sizeRelation(0, {0,1}, 0) = 0",
+                "!sizeRelation(0, {1,2}, 1) = 0", "!sizeRelation(0, {0,2}, 2) = 0");
+        at(DESCRIPTION, "The relation between argument a of the source and argument b of the target of a pair is 2 if "
+                + "the argument of the target is a subterm of the argument of the source but not equal to it, 1 if "
+                + "both are equal, and 0 otherwise.",
+                "rule f(c(x,s(y)),y)>f(s(y),c(x,s(y))) = 0", "!sizeRelation(0, 0, 0) = 2", "!sizeRelation(0, 0, 1) = 1",
+                "!sizeRelation(0, 1, {0,1}) = 0", "rule f(c(z,z),w)>f(z,h(w)) = 1", "!sizeRelation(1, 0, 0) = 2",
+                "!sizeRelation(1, 0, 1) = 0", "!sizeRelation(1, 1, {0,1}) = 0", "!sizeRelation(2, 0, 0) = 0",
+                "!sizeRelation(2, 1, 0) = 1");
+        at(DESCRIPTION, "The size-change graph of a pair consists of the root of the source, the root of the target, "
+                + "and the relations between all their arguments.",
+                "rule f(x,y)>h(x) = 0", "!closureSize() = 1", "rule g(x,y)>h(x) = 1", "!closureSize() = 2",
+                "rule f(x,y)>h(y) = 2", "!closureSize() = 3", "rule f(s(x),y)>h(x) = 3", "!closureSize() = 4",
+                "rule f(x,z)>h(x) = 4", "!closureSize() = 4");
+        at(DESCRIPTION, "A graph from function F to function G can be composed with a graph from G to H.",
+                "rule f(s(x),y)>g(x,y) = 0", "!closureSize() = 1", "rule g(x,y)>h(x) = 1", "!closureSize() = 3",
+                "!idempotentCount() = 0");
+        // In the next tests the last rule brings the graph that the composition of the others is.
+        at(DESCRIPTION, "The composition is a graph from F to H.",
+                "rule f(x,y)>g(x,y) = 0", "rule g(x,y)>h(x) = 1", "!closureSize() = 3", "rule f(x,y)>h(x) = 2",
+                "!closureSize() = 3");
+        at(DESCRIPTION, "Its relation between a and b is the maximum, over all arguments d of G, of the following "
+                + "number:",
+                "rule f(s(x),y)>g(x,s(x)) = 0", "rule g(x,x)>h(x) = 1", "!closureSize() = 3", "rule f(s(x),y)>h(x) = 2",
+                "!closureSize() = 3");
+        String number = "0 if the relation between a and d or the relation between d and b is 0, otherwise 2 if one of "
+                + "them is 2, otherwise 1.";
+        at(DESCRIPTION, number, "rule f(x,y)>g(x,z) = 0", "rule g(x,y)>h(y) = 1", "!closureSize() = 3",
+                "rule f(x,y)>h(z) = 2", "!closureSize() = 3");
+        at(DESCRIPTION, number, "rule f(x,y)>g(x,y) = 0", "rule g(s(x),y)>h(x) = 1", "!closureSize() = 3",
+                "rule f(s(x),y)>h(x) = 2", "!closureSize() = 3");
+        at(DESCRIPTION, number, "rule f(x,y)>g(y,x) = 0", "rule g(x,y)>h(x) = 1", "!closureSize() = 3",
+                "rule f(x,y)>h(y) = 2", "!closureSize() = 3");
+        at(DESCRIPTION, "The closure contains the graphs of all pairs and all compositions of graphs of the closure;",
+                "rule f(x,y)>g(x,y) = 0", "rule g(x,y)>f(y,x) = 1", "!closureSize() = 8", "!idempotentCount() = 2",
+                "!terminatesBySizeChange() = 0");
+        // A pair that leads to no pair, not even to itself, still has its graph in the closure.
+        at(DESCRIPTION, "The closure contains the graphs of all pairs and all compositions of graphs of the closure;",
+                "rule h(z)>h(s(z)) = 0", "!edgeCount() = 0", "!closureSize() = 1", "!idempotentCount() = 1",
+                "!terminatesBySizeChange() = 0", "!terminatesBySubtermCriterion() = 1");
+        at(DESCRIPTION, "A graph is idempotent if it leads from a function to the same function and its composition "
+                + "with itself is equal to it.",
+                "rule f(s(x),y)>f(y,x) = 0", "!closureSize() = 3", "!idempotentCount() = 1", "removeRule(0) = 0",
+                "rule f(x,y)>f(y,x) = 0", "!closureSize() = 2", "!idempotentCount() = 1", "removeRule(0) = 0",
+                "rule f(x,y)>g(x,y) = 0", "!closureSize() = 1", "!idempotentCount() = 0");
+        at(DESCRIPTION, "The size-change test succeeds if every idempotent graph of the closure has an argument a with "
+                + "relation 2 between a and a.",
+                "rule f(s(x),y)>f(y,x) = 0", "!terminatesBySizeChange() = 1", "rule g(x,s(y))>g(s(x),y) = 1",
+                "!terminatesBySizeChange() = 1", "rule f(x,y)>f(x,x) = 2", "!terminatesBySizeChange() = 0",
+                "removeRule(2) = 2", "!terminatesBySizeChange() = 1");
+    }
+
+    private static void subtermCriterionInWords() {
+        at(DESCRIPTION, "A projection chooses one argument for each function.",
+                "setArity(0, 3) = 2", "rule f(x,y,s(w))>g(z,w) = 0", "rule g(x,s(y))>h(y) = 1",
+                "rule h(s(x))>f(z,z,x) = 2", "!componentCount() = 1", "!projection(0) = 321");
+        at(DESCRIPTION, "It is written as a number of three digits: the chosen arguments of f, g and h, where 1 is the "
+                + "first argument.",
+                "setArity(2, 3) = 1", "rule f(x,s(y))>f(s(x),y) = 0", "rule g(x,s(y))>g(s(x),y) = 1",
+                "rule h(x,y,s(w))>h(s(x),s(y),w) = 2", "!projection(0) = 211", "!projection(1) = 121",
+                "!projection(2) = 113");
+        String first = "A projection is valid for a component if two conditions hold. First, for each pair of the "
+                + "component, the relation between the chosen argument of the source and the chosen argument of the "
+                + "target is 1 or 2, and it is 2 for at least one pair.";
+        at(DESCRIPTION, first, "rule f(s(x),y)>f(x,s(y)) = 0", "!projection(0) = 111", "rule f(x,s(y))>f(x,y) = 1",
+                "!componentOf({0,1}) = 0", "!projection(0) = 111", "removeRule(0) = 1", "!projection(0) = 211",
+                "rule f(x,y)>f(x,h(y)) = 1", "!componentOf({0,1}) = 0", "!projection(0) = NOT_FOUND");
+        at(DESCRIPTION, "Second, the digit of each function that is the root of no source and no target in the "
+                + "component is 1.",
+                "setArity(0, 3) = 2", "setArity(2, 2) = 1", "rule h(x,s(y))>h(f(x,x,x),y) = 0",
+                "rule f(x,y,w)>g(x,y) = 1", "rule g(x,s(y))>g(s(x),y) = 2", "!componentOf(0) = 0",
+                "!componentOf({1,2}) = NOT_FOUND", "!componentOf(3) = 1", "!projection(0) = 112",
+                "!projection(1) = 121");
+        at(DESCRIPTION, "The elimination starts with all pairs and works in rounds.",
+                "rule f(s(x),z)>f(x,s(z)) = 0", "rule f(s(x),s(y))>f(x,f(s(x),y)) = 1", "!componentCount() = 1",
+                "!eliminationRounds() = 2", "!remainingPairCount() = 0", "!terminatesBySubtermCriterion() = 1");
+        at(DESCRIPTION, "A round determines the components of the dependency graph restricted to the remaining pairs.",
+                "rule f(x,y)>f(x,y) = 0", "rule g(x,s(y))>g(x,y) = 1", "rule f(s(x),y)>g(x,y) = 2",
+                "rule g(x,y)>f(x,y) = 3", "!componentCount() = 1", "!projection(0) = 111", "!eliminationRounds() = 2",
+                "!remainingComponentCount() = 1", "!remainingPairCount() = 1", "!terminatesBySubtermCriterion() = 0");
+        at(DESCRIPTION, "From each component that has a valid projection, it removes the pairs for which the relation "
+                + "under the projection of the component is 2.",
+                "rule f(s(x),y)>f(x,y) = 0", "rule f(x,y)>f(x,y) = 1", "rule g(x,y)>g(y,x) = 2",
+                "rule h(s(x))>h(x) = 3", "!componentCount() = 3", "!eliminationRounds() = 1",
+                "!remainingPairCount() = 2", "!remainingComponentCount() = 2");
+        at(DESCRIPTION, "The test by the subterm criterion succeeds if no component remains at the end.",
+                "rule h(s(x))>h(x) = 0", "!remainingComponentCount() = 0", "!terminatesBySubtermCriterion() = 1",
+                "rule h(z)>h(s(z)) = 1", "!remainingComponentCount() = 1", "!terminatesBySubtermCriterion() = 0");
+    }
+
+    private static void textInWords() {
+        at(DESCRIPTION, "A symbol without arguments is written as its letter.",
+                "shows 0 z", "term 0 x = 1", "shows 0 x", "term 0 y = 1", "shows 0 y", "term 0 w = 1", "shows 0 w",
+                "~term 0 z() = -101");
+        at(DESCRIPTION, "A symbol with arguments is written as its letter followed by its arguments in parentheses, "
+                + "separated by commas.",
+                "setArity(0, 3) = 2", "term 0 f(x,c(y,s(w)),h(g(z,z))) = 10", "shows 0 f(x,c(y,s(w)),h(g(z,z)))",
+                "~term 0 sz = -101", "~term 0 c(x;y) = -103", "~term 0 c(xy) = -103", "~term 0 c[x,y] = -101",
+                "shows 0 f(x,c(y,s(w)),h(g(z,z)))");
+        at(DESCRIPTION, "A rule is written as the left side, the character >, and the right side.",
+                "rule f(x,y)>c(y,x) = 0", "loadLeft(0, 0) = 3", "shows 0 f(x,y)", "loadRight(0, 1) = 3",
+                "shows 1 c(y,x)", "~rule f(x,y) = -106", "~rule >f(x,y) = -100", "~rule f(x,y)<x = -106",
+                "~rule f(x,y)>x>x = -108", "ruleCount() = 1");
     }
 
     // ---- Promises 1 to 8: arities and rules ----
@@ -1220,6 +1457,12 @@ public final class BoundaryTest {
         rewritingAndGraphs();
         choices();
         textAndErrors();
+        termsInWords();
+        rewritingInWords();
+        pairsInWords();
+        sizeChangeInWords();
+        subtermCriterionInWords();
+        textInWords();
         newObjectAndArities();
         addRule();
         rulesAndSizes();

@@ -1,11 +1,14 @@
 import java.io.IOException;
 import java.lang.reflect.Constructor;
+import java.lang.reflect.Executable;
 import java.lang.reflect.Field;
 import java.lang.reflect.Method;
 import java.lang.reflect.Modifier;
 import java.nio.charset.StandardCharsets;
 import java.nio.file.Files;
 import java.nio.file.Path;
+import java.util.ArrayList;
+import java.util.List;
 import java.util.Set;
 import java.util.TreeSet;
 import java.util.regex.Matcher;
@@ -14,22 +17,9 @@ import java.util.regex.Pattern;
 /** The public face of the document, and the rules of LANGUAGE.md that can be seen from outside or in the text. */
 public final class FaceTest {
     private static final String SOURCE = "src/main/java/DependencyPairAnalyzer.java";
-    private static final String[] FACE = {
-        "setArity 2", "arity 1", "addRule 0", "removeRule 1", "ruleCount 0", "leftSize 1", "rightSize 1",
-        "pairCount 0", "pairRule 1", "pairPosition 1", "sourceFunction 1", "targetFunction 1", "hasEdge 2",
-        "edgeCount 0", "componentCount 0", "componentOf 1", "sizeRelation 3", "closureSize 0", "idempotentCount 0",
-        "terminatesBySizeChange 0", "projection 1", "eliminationRounds 0", "remainingPairCount 0",
-        "remainingComponentCount 0", "terminatesBySubtermCriterion 0", "parseTerm 1", "termSize 1",
-        "formattedLength 1", "formattedCharacter 2", "compareTerms 2", "copyTerm 2", "loadLeft 2", "loadRight 2",
-        "matches 3", "redexCount 1", "redexAt 2", "rewriteAt 2", "rewriteOutermost 2", "findLoop 2",
-        "exploredCount 2", "exploredNormalForms 2", "lastExploredSize 2", "loadNormalForm 3",
-        "normalFormRegisterCount 0", "appendCharacter 1", "clearText 0", "textLength 0", "saveSnapshot 0",
-        "restoreSnapshot 0"
-    };
-    private static final String[] CONSTANTS = {
-        "NO_SUCH_ELEMENT -1", "OUT_OF_RANGE -2", "NOT_POSSIBLE -3", "FULL -4", "NOT_FOUND -5", "INVALID -6",
-        "TOO_LARGE -8"
-    };
+    private static final Path DOCUMENT = Path.of("../shared/DOC.md");
+    private static final int CONSTANTS = 7;
+    private static final int PROMISES = 50;
     // Words and signs of the rules 2, 4, 6, 10 and 13.
     private static final String[] REFUSED = {
         "\\b(throw|throws|try|catch|finally|synchronized|assert|import|package|native|volatile|transient)\\b",
@@ -46,37 +36,89 @@ public final class FaceTest {
         }
     }
 
-    private static void face() throws IllegalAccessException {
+    /** The public members that the document prints between the braces of the class, in its order. */
+    private static List<String> printedFace(String document) {
+        Matcher block = Pattern.compile("(?s)```java\npublic final class DependencyPairAnalyzer \\{\n(.*?)\n\\}\n```")
+                .matcher(document);
+        check(block.find(), "the document prints no face");
+        List<String> members = new ArrayList<>();
+        for (String line : block.group(1).split("\n")) {
+            check(line.matches("    public .*;"), "the face has a line that is no public member: " + line);
+            members.add(line.trim().replaceAll(";$", ""));
+        }
+        return members;
+    }
+
+    private static List<String> found(String pattern, String text) {
+        List<String> found = new ArrayList<>();
+        Matcher matcher = Pattern.compile(pattern).matcher(text);
+        while (matcher.find()) {
+            found.add(matcher.group(1));
+        }
+        return found;
+    }
+
+    /** The face as the document prints it: in the source, in the class file, and once more at the promises. */
+    private static void face(String document, String source) throws IllegalAccessException {
+        List<String> printed = printedFace(document);
+        Set<String> written = new TreeSet<>(found("(?m)^ {4}(public [^={]*?(?: = -?\\d+)?)(?:;| \\{)$", source));
+        check(written.equals(new TreeSet<>(printed)), "the public members of the source are " + written);
+        Set<String> compiled = new TreeSet<>();
+        for (Field field : DependencyPairAnalyzer.class.getDeclaredFields()) {
+            if (!Modifier.isPrivate(field.getModifiers())) {
+                compiled.add(Modifier.toString(field.getModifiers()) + " " + field.getType() + " " + field.getName()
+                        + " = " + field.getInt(null));
+            }
+        }
+        for (Method method : DependencyPairAnalyzer.class.getDeclaredMethods()) {
+            if (!Modifier.isPrivate(method.getModifiers())) {
+                compiled.add(Modifier.toString(method.getModifiers()) + " " + method.getReturnType() + " "
+                        + method.getName() + types(method));
+            }
+        }
+        for (Constructor<?> constructor : DependencyPairAnalyzer.class.getDeclaredConstructors()) {
+            compiled.add(Modifier.toString(constructor.getModifiers()) + " " + constructor.getName()
+                    + types(constructor));
+        }
+        Set<String> nameless = new TreeSet<>();
+        for (String member : printed) {
+            nameless.add(member.replaceAll("int \\w+([,)])", "int$1"));
+        }
+        check(compiled.equals(nameless), "the members that are not private are " + compiled);
+        check(Modifier.toString(DependencyPairAnalyzer.class.getModifiers()).equals("public final"), "the class is "
+                + Modifier.toString(DependencyPairAnalyzer.class.getModifiers()));
+        promised(document, printed);
+    }
+
+    private static String types(Executable member) {
+        List<String> types = new ArrayList<>();
+        for (Class<?> type : member.getParameterTypes()) {
+            types.add(type.getName());
+        }
+        return "(" + String.join(", ", types) + ")";
+    }
+
+    /** The document tells each constant and each signature a second time. */
+    private static void promised(String document, List<String> printed) {
+        List<String> told = new ArrayList<>();
+        for (String constant : found("(?m)^- `([A-Z_]+ = -\\d)`: ", document)) {
+            told.add("public static final int " + constant);
+        }
+        for (String signature : found("(?m)^## Promise \\d+: .*\n\n`(.*)`$", document)) {
+            told.add("public " + signature);
+        }
+        check(told.equals(printed), "the constants and the promises are " + told);
+        check(printed.size() == CONSTANTS + PROMISES, "the face has " + printed.size() + " members");
+    }
+
+    private static void inside() {
         Class<?> type = DependencyPairAnalyzer.class;
-        Set<String> methods = new TreeSet<>();
         Set<String> publicNames = new TreeSet<>();
         for (Method method : type.getDeclaredMethods()) {
-            if (!Modifier.isPrivate(method.getModifiers())) {
-                check(Modifier.isPublic(method.getModifiers()), method + " is neither public nor private");
-                check(!Modifier.isStatic(method.getModifiers()), method + " is static");
-                check(method.getReturnType() == int.class, method + " does not return int");
-                for (Class<?> parameter : method.getParameterTypes()) {
-                    check(parameter == int.class, method + " takes something that is no int");
-                }
-                methods.add(method.getName() + " " + method.getParameterCount());
+            if (Modifier.isPublic(method.getModifiers())) {
                 publicNames.add(method.getName());
             }
         }
-        check(methods.equals(new TreeSet<>(Set.of(FACE))), "the public methods are " + methods);
-        Set<String> constants = new TreeSet<>();
-        for (Field field : type.getDeclaredFields()) {
-            if (!Modifier.isPrivate(field.getModifiers())) {
-                constants.add(field.getName() + " " + field.getInt(null));
-            }
-        }
-        check(constants.equals(new TreeSet<>(Set.of(CONSTANTS))), "the public constants are " + constants);
-        Constructor<?>[] constructors = type.getDeclaredConstructors();
-        check(constructors.length == 1 && constructors[0].getParameterCount() == 0, "the constructors differ");
-        check(Modifier.isPublic(type.getModifiers()) && Modifier.isFinal(type.getModifiers()), "class not public final");
-        inside(type, publicNames);
-    }
-
-    private static void inside(Class<?> type, Set<String> publicNames) {
         check(type.getDeclaredClasses().length < 12, "more than twelve classes");
         for (Method method : type.getDeclaredMethods()) {
             boolean hidden = Modifier.isPrivate(method.getModifiers());
@@ -106,8 +148,7 @@ public final class FaceTest {
         check(count <= 20, type + " has " + count + " fields");
     }
 
-    private static void text() throws IOException {
-        String source = Files.readString(Path.of(SOURCE), StandardCharsets.US_ASCII);
+    private static void text(String source) {
         String code = source.replaceAll("(?s)/\\*.*?\\*/", "").replaceAll("//[^\n]*", "");
         for (String refused : REFUSED) {
             Matcher matcher = Pattern.compile(refused).matcher(code);
@@ -123,14 +164,18 @@ public final class FaceTest {
                 start = i;
             }
             if (lines[i].matches("( {4}| {8})\\}")) {
-                check(lines[start].contains(" class ") || i - start < 60, "the method of line " + (start + 1) + " is long");
+                check(lines[start].contains(" class ") || i - start < 60,
+                        "the method of line " + (start + 1) + " is long");
             }
         }
     }
 
     public static void main(String[] args) throws IllegalAccessException, IOException {
-        face();
-        text();
+        String document = Files.readString(DOCUMENT, StandardCharsets.UTF_8);
+        String source = Files.readString(Path.of(SOURCE), StandardCharsets.US_ASCII);
+        face(document, source);
+        inside();
+        text(source);
         System.out.println(wrong == 0 ? "the face and the rules are kept" : wrong + " faults");
         if (wrong != 0) {
             System.exit(1);
